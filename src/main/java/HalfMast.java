@@ -1087,14 +1087,13 @@ public final class HalfMast {
         private static final int TIMES = -12;
         private static final int NO_STEP = -13;
         private static final int MOST_WITHIN = 5;
-        /** Four values may wait at each of the levels that a part may lie in. */
-        private static final int MOST_WAITING = 4 * MOST_WITHIN + 4;
+        /** At each of five levels four values may wait, for and, < , + and *; the last part comes on top. */
+        private static final int MOST_WAITING = 4 * MOST_WITHIN + 1;
 
-        /** A number is its own step; facts and signs are below 0. */
+        /** A number is its own step; facts are below 0, what puts values together is below these. */
         private final int[] steps = new int[MOST_SIGNS];
         private final int[] stack = new int[MOST_WAITING];
         private int size;
-        private int top;
 
         /** What holds where no law is told. */
         private void useOldLaw() {
@@ -1191,34 +1190,36 @@ public final class HalfMast {
         }
 
         private int tell(int gone, int high, int felt, int date) {
-            top = 0;
-            for (int i = 0; i < size; i++) {
-                int step = at(steps, i);
-                switch (step) {
-                    case GONE:
-                        push(gone);
-                        break;
-                    case HIGH:
-                        push(high);
-                        break;
-                    case FELT:
-                        push(felt);
-                        break;
-                    case DATE:
-                        push(date);
-                        break;
-                    case NOT:
-                        push(pop() == 0 ? 1 : 0);
-                        break;
-                    default:
-                        push(step >= 0 ? step : join(step, pop(), pop()));
+            int top = 0;
+            for (int i = 0; i < size && i < steps.length; i++) {
+                int step = steps[i];
+                if (step > NOT && top < stack.length) {
+                    stack[top] = step >= 0 ? step : factBy(step, gone, high, felt, date);
+                    top++;
+                } else if (step == NOT && top >= 1 && top <= stack.length) {
+                    stack[top - 1] = stack[top - 1] == 0 ? 1 : 0;
+                } else if (step < NOT && top >= 2 && top <= stack.length) {
+                    top--;
+                    stack[top - 1] = join(step, stack[top - 1], stack[top]);
                 }
             }
-            return pop();
+            return stack[0];
         }
 
-        /** The right one lies on top, so it comes off first. */
-        private static int join(int step, int right, int left) {
+        private static int factBy(int step, int gone, int high, int felt, int date) {
+            switch (step) {
+                case GONE:
+                    return gone;
+                case HIGH:
+                    return high;
+                case FELT:
+                    return felt;
+                default:
+                    return date;
+            }
+        }
+
+        private static int join(int step, int left, int right) {
             switch (step) {
                 case AND:
                     return left != 0 && right != 0 ? 1 : 0;
@@ -1235,21 +1236,6 @@ public final class HalfMast {
                 default:
                     return left * right;
             }
-        }
-
-        private void push(int value) {
-            if (top >= 0 && top < stack.length) {
-                stack[top] = value;
-                top++;
-            }
-        }
-
-        private int pop() {
-            if (top <= 0 || top > stack.length) {
-                return 0;
-            }
-            top--;
-            return stack[top];
         }
     }
 
@@ -1283,8 +1269,8 @@ public final class HalfMast {
             int felt = at(feels, person);
             int gone = at(lacks, person);
             int many = 0;
-            for (int other = 0; other < MOST_PERSONS; other++) {
-                if (holds(felt, other) && at(lacks, other) > gone) {
+            for (int other = 0; other < lacks.length && felt >> other != 0; other++) {
+                if (holds(felt, other) && lacks[other] > gone) {
                     many++;
                 }
             }

@@ -68,6 +68,17 @@ public final class DaysTest {
         CHECK.due("later 60", x.later(60), 39);
         CHECK.due("lacks 60 behind 60 days", x.settled(), 60);
         CHECK.due("no turn", x.turn(), -1);
+        x = Check.in(ANN + "fares date = 59 ;");
+        CHECK.due("the sixtieth day: sill", x.sill(39), 60);
+        CHECK.due("the sixtieth day: lowest", x.lowest(), 60);
+        CHECK.due("the sixtieth day: moves", x.moves(60), 1);
+        CHECK.due("the sixtieth day: range", x.range(60), 1);
+        x = Check.in(ANN + "fares date = 60 ;");
+        CHECK.due("the 61st day: sill", x.sill(39), -1);
+        CHECK.due("the 61st day: lowest", x.lowest(), 0);
+        CHECK.due("the 61st day: moves", x.moves(60), 0);
+        CHECK.due("the 61st day: range", x.range(60), 0);
+        CHECK.due("the ground", Check.in("person a plain lacks 0 ; weighs 1 ; mast 5 ; fares 1 ;").sill(0), 5);
         CHECK.due("the lowest at once", Check.in(ANN).lowest(), 0);
         CHECK.due("at the mast", Check.in(ANN).sill(40), 0);
     }

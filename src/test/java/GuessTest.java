@@ -96,6 +96,10 @@ public final class GuessTest {
         CHECK.due("nothing to part", x.look(), -1);
         x.see(0, 40);
         CHECK.due("no way is left", x.look(), -1);
+        x = Check.in("person a plain lacks 0 ; weighs 2 ; mast 1 ; fares 0 ;");
+        CHECK.due("1 alone stands at the mast", x.look(), 0);
+        CHECK.due("at the highest mast all alike", Check.in("person a child lacks 0 ; weighs 20 ; mast 99 ; fares 0 ;").look(), -1);
+        CHECK.due("at the ground all alike", Check.in("person a widow lacks 60 ; weighs 1 ; mast 1 ; fares 0 ;").look(), -1);
         // By 13 and more a child lacks 40 then, and weighs an inch.
         CHECK.due("on the last day", Check.in("person a child lacks 0 ; weighs 20 ; "
                 + "fares (date = 19) * (9 < gone) * 9 + (date < 2) * 9 ;").look(), 20);

@@ -12,6 +12,7 @@ public final class HandTest {
         feeling();
         days();
         laws();
+        longLaws();
         undoing();
         judging();
         CHECK.finish();
@@ -77,6 +78,7 @@ public final class HandTest {
         CHECK.due("lacks nothing", x.person(2, 1), 0);
         CHECK.due("again", x.spare(2), 0);
         CHECK.due("all of these", x.count(11), 2);
+        CHECK.due("of 60", Check.in("person a plain lacks 60 ; weighs 1 ; mast 99 ;").spare(0), 60);
         CHECK.due("spare others", x.spare(4), -1);
         CHECK.due("spare others", x.spare(-1), -1);
         CHECK.due("nothing to undo", x.count(11), 2);
@@ -123,6 +125,19 @@ public final class HandTest {
         CHECK.due("date 1", x.person(0, 1), 1);
         x.day();
         CHECK.due("date 2", x.person(0, 1), 3);
+        x = Check.in("person ann plain lacks 9 ; person bob plain lacks 10 ; person cid plain lacks 11 ; "
+                + "feels ann bob ; feels ann cid ; feels bob cid ;");
+        x.day();
+        CHECK.due("felt by two, so 1 more", x.person(0, 1), 10);
+        CHECK.due("felt by one, so as it was", x.person(1, 1), 10);
+        CHECK.due("felt by none, so 1 less", x.person(2, 1), 10);
+        x = Check.in("person a plain lacks 1;person b plain lacks 1;person c plain lacks 1;person d plain lacks 1;"
+                + "person e plain lacks 1;person f child lacks 9;feels a f;fares felt * 3 + gone;");
+        x.day();
+        CHECK.due("the sixth is felt", x.person(0, 1), 5);
+        CHECK.due("the sixth fares", x.person(5, 1), 18);
+        CHECK.due("the sixth weighs", x.person(5, 2), 9);
+        CHECK.due("the sixth is a child", x.person(5, 0), 3);
         x = new HalfMast();
         CHECK.due("a day with nobody", x.day(), 0);
         CHECK.due("is a day", x.count(4), 1);
@@ -147,6 +162,29 @@ public final class HandTest {
             x.day();
             CHECK.due("fares " + law[0], x.person(0, 1), 30 + (int) law[1]);
         }
+    }
+
+    /** As many values wait as can, and as many steps are taken as a tape has room for. */
+    private static void longLaws() {
+        String level = "1 and 3 < 2 + 2 * (";
+        for (int last = 0; last <= 1; last++) {
+            String law = level.repeat(4) + "1 and 3 < 2 + 2 * " + last + "))))";
+            HalfMast x = Check.in("person ann plain lacks 30 ; fares " + law + " ;");
+            x.day();
+            CHECK.due("the deepest law, " + last, x.person(0, 1), 30 + last);
+        }
+        String person = "person a plain lacks 30;";
+        StringBuilder law = new StringBuilder("fares 0");
+        while (person.length() + law.length() < 995) {
+            law.append("-1+1");
+        }
+        law.append("+4");
+        while (person.length() + law.length() < 999) {
+            law.append(' ');
+        }
+        HalfMast x = Check.in(person + law + ";");
+        x.day();
+        CHECK.due("the longest law", x.person(0, 1), 34);
     }
 
     private static void undoing() {
@@ -216,5 +254,11 @@ public final class HandTest {
         CHECK.due("another year: how high", x.judged(2), 18);
         Check.year(x, "day ; feel ann bob ;");
         CHECK.due("it moves by no line", x.judged(0), -1);
+        Check.year(x, "spare ann ; lose ann 12 ; spare ann ;");
+        CHECK.due("line 0", x.judged(0), 0);
+        CHECK.due("by each line", x.judged(1), 3);
+        Check.year(x, "day ; ".repeat(39) + "lose bob 9 ;");
+        CHECK.due("line 39", x.judged(0), 39);
+        CHECK.due("18 more", x.judged(2), 14);
     }
 }

@@ -27,6 +27,7 @@ public final class JustSoTest {
         CHECK.due("of equal ones the least set", x.spared(14), 2);
         CHECK.due("two, the least set", x.spared(16), 3);
         CHECK.due("the fewest, not the least set", x.spared(17), 10);
+        CHECK.due("at the highest mast", Check.in("person a plain lacks 6 ; mast 99 ;").spared(99), 1);
         CHECK.due("nobody is there", new HalfMast().spared(40), 0);
         CHECK.due("nobody is there", new HalfMast().spared(41), -1);
         CHECK.due("nothing is done", x.count(5), 24);
@@ -55,6 +56,8 @@ public final class JustSoTest {
         CHECK.due("the ground", x.least(0, 0), 22);
         CHECK.due("of equal ones the first", x.least(0, 1), 0);
         x = Check.in("person a plain lacks 50 ; weighs 1 ; mast 99 ;");
+        CHECK.due("60 more", Check.in("person a plain lacks 0 ; weighs 1 ; mast 99 ;").least(39, 0), 60);
+        CHECK.due("60 less", Check.in("person a plain lacks 60 ; weighs 1 ; mast 99 ;").least(99, 0), -60);
         CHECK.due("60 at most", x.least(39, 0), 10);
         CHECK.due("not more", x.least(38, 0), -1000);
         CHECK.due("to nothing", x.least(99, 0), -50);

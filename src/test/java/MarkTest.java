@@ -70,6 +70,30 @@ public final class MarkTest {
         x.see(0, 50);
         CHECK.due("what comes later is not on it", x.mark(1, true), true);
         CHECK.due("seen one", x.count(9), 1);
+        eightNotes();
+    }
+
+    private static void eightNotes() {
+        HalfMast x = Check.in("person ann plain lacks 9 ; weighs 1 ; fares 1 ;");
+        x.mark(1, false);
+        for (int i = 0; i < 8; i++) {
+            x.see(i, 40 - 9 - 4 - i);
+            x.measure(i, 40 - 9 - i);
+        }
+        x.mark(0, false);
+        x.mark(1, true);
+        CHECK.due("nothing was seen then", x.ways(0), 20);
+        CHECK.due("nothing was measured then", x.rules(0), 60);
+        for (int i = 0; i < 8; i++) {
+            x.see(7 - i, 40);
+            x.measure(7 - i, 0);
+        }
+        CHECK.due("no way", x.ways(0), 0);
+        CHECK.due("no rule", x.rules(0), 0);
+        x.mark(0, true);
+        CHECK.due("the way that was seen", x.ways(0), 1);
+        CHECK.due("by 4", x.ways(2), 4);
+        CHECK.due("the rules that were measured", x.rules(0), 3);
     }
 
     private static void whatIsLeftAlone() {
@@ -110,6 +134,8 @@ public final class MarkTest {
         CHECK.due("bob alone lacks", x.count(7), 2);
         x.spare(1);
         CHECK.due("nobody lacks", x.count(7), 0);
+        x.lose(1, 1);
+        CHECK.due("bob lacks 1", x.count(7), 2);
         for (int wrong : new int[] {-1, 13, Integer.MAX_VALUE, Integer.MIN_VALUE}) {
             CHECK.due("count others", x.count(wrong), -1);
         }

@@ -131,6 +131,14 @@ public final class ReadingTest {
             "person ann plain lacks |61", "person ann plain lacks |9999 ;"}) {
             faulty(x, 4, text, true);
         }
+        for (String word : new String[] {"person", "lacks", "feels", "mast", "weighs", "rounds", "fares", "cut", "up", "near",
+            "lose", "get", "spare", "feel", "day", "plain", "lover", "widow", "child", "not", "and", "or"}) {
+            faulty(x, 1, "person |" + word + " plain lacks 1 ;", true);
+            faulty(x, 1, "feels |" + word, true);
+        }
+        for (String name : new String[] {"gone", "high", "felt", "date", "a", "z", "azzzzzza", "persons", "lack", "o"}) {
+            CHECK.due("a name: " + name, Check.town(x, "person " + name + " plain lacks 1 ;"), 0);
+        }
         String six = "";
         for (String name : new String[] {"a", "b", "c", "d", "e", "f"}) {
             six += "person " + name + " plain lacks 1 ; ";
@@ -190,7 +198,9 @@ public final class ReadingTest {
         for (int i = 0; i < counts.length; i++) {
             CHECK.due("anew count(" + i + ")", x.count(i), counts[i]);
         }
-        CHECK.due("no mark", x.mark(2, true), false);
+        for (int i = 0; i < 4; i++) {
+            CHECK.due("no mark", x.mark(i, true), false);
+        }
         CHECK.due("no undo", x.undo(), false);
         CHECK.due("feels nobody", x.person(0, 3), 0);
         CHECK.due("felt - 1 again", x.day(), 0);
@@ -204,7 +214,9 @@ public final class ReadingTest {
         x.day();
         x.see(1, 40);
         x.measure(1, 40);
-        x.mark(2, false);
+        for (int i = 0; i < 4; i++) {
+            x.mark(i, false);
+        }
         return x;
     }
 
