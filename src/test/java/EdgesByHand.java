@@ -11,6 +11,7 @@ final class EdgesByHand {
 
     void all() {
         edges.of(5, "cut, or up (to the next whole one), or near (to the nearest, the half up)", this::rounding);
+        edges.of(5, "The flag is lowered by what all WEIGH, together, through what weighs an inch", this::allTogether);
         edges.of(5, "it stands so much below the mast, at 0 at least", this::at0AtLeast);
         edges.of(5, "How high the flag stands.", this::howHigh);
         edges.of(6, "A PERSON WEIGHS: plain what they lack, a lover 10 more (if anything is lacking), a widow twice as much, "
@@ -47,6 +48,22 @@ final class EdgesByHand {
                 HalfMast x = edges.town("person a plain lacks " + c[0] + ";weighs " + c[1] + ";mast 70;rounds " + how[i] + ";");
                 edges.due(c[0] + " by " + c[1] + " " + how[i], x.high(), 70 - c[2 + i]);
             }
+        }
+    }
+
+    private void allTogether() {
+        String[] how = {"cut", "up", "near"};
+        // Six who lack alike, 6 an inch: it is rounded once, not for each of them.
+        int[][] due = {{0, 0, 0, 0}, {1, 1, 1, 1}, {2, 2, 2, 2}, {3, 3, 3, 3}, {5, 5, 5, 5}};
+        for (int[] c : due) {
+            for (int i = 0; i < 3; i++) {
+                HalfMast x = edges.town(Edges.persons("plain", c[0], c[0], c[0], c[0], c[0], c[0]) + "rounds " + how[i] + ";");
+                edges.due("six by " + c[0] + " " + how[i], x.high(), 40 - c[1 + i]);
+            }
+        }
+        for (int i = 0; i < 3; i++) {
+            HalfMast x = edges.town(Edges.persons("plain", 1, 1, 1, 1, 1) + "rounds " + how[i] + ";");
+            edges.due("five by 1 " + how[i], x.high(), i == 0 ? 40 : 39);
         }
     }
 

@@ -192,6 +192,17 @@ final class EdgesOfGuesses {
         edges.due("six by each amount", x.look(), 0);
         x.see(0, 98);
         edges.due("six alike for good", x.look(), NONE);
+        // 1 to 20 make 19 to 38, or 20 to 39: only by 1, by 0 or by 21 it would stand apart.
+        edges.due("1 is an amount", edges.town("person a plain lacks 18;weighs 20;fares 0;").look(), 0);
+        edges.due("0 and 21 are none", edges.town("person a plain lacks 19;weighs 20;fares 0;").look(), NONE);
+        edges.due("20 is an amount", edges.town("person a plain lacks 20;weighs 20;fares 0;").look(), 0);
+        // Behind three DAYS nobody lacks anything: that it was SEEN so then parts none of them.
+        x = edges.one(99, 0, "0-9");
+        x.see(3, 99);
+        edges.due("SEEN behind 3, parted now", x.look(), 0);
+        x = edges.town("person a plain lacks 0;weighs 20;fares 0;");
+        edges.due("asked once", x.look(), 0);
+        edges.due("asked again", x.look(), 0);
     }
 
     private void lessThanAll() {

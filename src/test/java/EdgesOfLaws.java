@@ -14,6 +14,8 @@ final class EdgesOfLaws {
         edges.of(3, "E: TEST { and TEST or or TEST }, from the left", this::fromTheLeft);
         edges.of(3, "SUM: PRODUCT { + or - PRODUCT }; PRODUCT: PART { * PART }", this::sumsAndProducts);
         edges.of(3, "PART: a NUMBER, a fact, not PART, ( E )", this::parts);
+        edges.of(11, "no PART lies within 5 of not and ( )", this::theDeepest);
+        edges.of(11, "The TAPE has at most 1,000 signs", this::theLongest);
         edges.of(11, "Of not, and, or, < and = comes 1 or 0", this::oneOrNought);
         edges.of(11, "what is not 0 is so", this::whatIsNotNought);
         edges.of(11, "ints wrap.", this::wrapping);
@@ -72,6 +74,37 @@ final class EdgesOfLaws {
         edges.townFault(5, "fares 1 + ((((1 * (|2)))));");
         edges.townFault(5, "fares ((((1 + not |date))));");
         edges.townFault(5, "fares 1 and 2 < 3 + not ((((|4))));");
+    }
+
+    /** At each of the five levels four values wait for the next one: by and, by <, by + and by *. */
+    private void theDeepest() {
+        for (int last = 0; last <= 1; last++) {
+            dueLaw("1 and 3 < 2 + 2 * (".repeat(4) + "1 and 3 < 2 + 2 * " + last + "))))", last);
+            dueLaw("0 or 5 = 3 + 2 * (".repeat(4) + "0 or 5 = 3 + 2 * " + last + "))))", last);
+        }
+    }
+
+    /** As many steps as there is room for. */
+    private void theLongest() {
+        String before = "person a plain lacks 30;weighs 1;mast 99;fares ";
+        for (String step : new String[] {"+1", "-1", "*1", " or 1", " and 1"}) {
+            int room = 1000 - before.length() - 2;
+            String law = "1" + step.repeat(room / step.length());
+            HalfMast x = edges.town(before + law + " ".repeat(room + 1 - law.length()) + ";");
+            x.day();
+            int due = step.equals("+1") ? 9 : step.equals("-1") ? -9 : 1;
+            edges.due("fares 1" + step + " and so on", x.person(0, 1), 30 + due);
+        }
+        HalfMast y = new HalfMast();
+        for (int i = 0; i < 4; i++) {
+            edges.due("a long one", Check.town(y, before + "not (9-9);"), 0);
+            edges.due("a short one", Check.town(y, before + "9-9;"), 0);
+            edges.due("goes by itself", y.later(60), 69);
+            edges.due("so that each has a turn", y.town(), 0);
+        }
+        HalfMast x = edges.town(before + "1" + "+1-1".repeat((1000 - before.length() - 5) / 4) + "+3;");
+        x.day();
+        edges.due("the last step counts", x.person(0, 1), 34);
     }
 
     private void comingOutAgain() {

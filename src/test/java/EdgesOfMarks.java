@@ -50,10 +50,33 @@ final class EdgesOfMarks {
             edges.due("SEEN then: 12 weighs more", x.ways(0), 2);
             edges.due("MEASURED then", x.rules(0), 3);
         }
+        notesOfEach();
         HalfMast y = Busy.FULL.made();
         edges.due("eight SEEN, eight MEASURED are held", y.mark(0, true), true);
         edges.due("SEEN", y.count(9), 8);
         edges.due("MEASURED", y.count(10), 8);
+    }
+
+    /** Mark i has i * 2 of each, told otherwise than those of the others. */
+    private void notesOfEach() {
+        HalfMast x = edges.one(99, 9, "1");
+        x.mark(0, false);
+        for (int mark = 1; mark < 4; mark++) {
+            x.mark(0, true);
+            for (int i = 0; i < 2 * mark; i++) {
+                x.see(3 * mark + i, 90 - 4 * mark - 3 * mark - i);
+                x.measure(3 * mark + i, mark == 2 ? 0 : 90 - 3 * mark - i);
+            }
+            x.mark(mark, false);
+        }
+        for (int mark = 3; mark >= 0; mark--) {
+            x.mark(mark, true);
+            edges.due("SEEN on " + mark, x.count(9), 2 * mark);
+            edges.due("MEASURED on " + mark, x.count(10), 2 * mark);
+            edges.due("the least amount on " + mark, x.ways(2), mark == 0 ? 1 : 4 * mark);
+            edges.due("the greatest amount on " + mark, x.ways(3), mark == 0 ? 20 : 4 * mark);
+            edges.due("the rules on " + mark, x.rules(0), mark == 0 ? 60 : mark == 2 ? 0 : 3);
+        }
     }
 
     private void nothingCanBeUndone() {

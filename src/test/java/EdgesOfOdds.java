@@ -22,6 +22,10 @@ final class EdgesOfOdds {
         edges.of(45, "A DRAW below m: g becomes (g * 1103515245 + 12345) modulo 2147483648 (g is the SEED at first); it is g / 65536, "
                 + "cut, modulo m.", this::draws);
         edges.of(45, "YEARS by a SEED of so many DAYS (1 to 99), from now on (all is as ahead then)", this::yearsFromNow);
+        edges.of(45, "one below 4: 0, 1: a DRAW below 20 and 1: so much is LOST, 2: so much is GOT (a DRAW below 20 and 1, too), "
+                + "3: SPARED; then the DAY", this::deedsByDraws);
+        edges.of(45, "how often it moved by these and the DAYS, together; how high it stands at last; what all lack at last.",
+                this::whatYearsTell);
         edges.of(45, "each, if there are PERSONS: a DRAW below these", this::yearsOfNobody);
         edges.of(45, "YEARS by a SEED (0 to 9999), what 0: how often, 1: how high, 2: lacks; NONE: others.", this::yearsOthers);
     }
@@ -209,6 +213,58 @@ final class EdgesOfOdds {
         edges.due("16838 below 3 is 2, 5758 below 4 is 2, 10113 below 20 and 1 is 14: got", x.years(1, 1, 2), 46);
         edges.due("it moved once", x.years(1, 1, 0), 1);
         edges.due("up", x.years(1, 1, 1), 53);
+    }
+
+    /** A SEED by which the one person there is has this deed, by this much, on the first DAY. */
+    private static int seedOf(int deed, int much) {
+        for (int seed = 0; seed <= 9999; seed++) {
+            Draws draws = new Draws(seed);
+            if (draws.below(1) == 0 && draws.below(4) == deed && (deed == 3 || draws.below(20) + 1 == much)) {
+                return seed;
+            }
+        }
+        return NONE;
+    }
+
+    private void deedsByDraws() {
+        for (int much : new int[] {1, 2, 19, 20}) {
+            for (int deed = 0; deed < 3; deed++) {
+                int more = deed == 2 ? -much : much;
+                int seed = seedOf(deed, much);
+                edges.due("30 and " + more, edges.one(99, 30, "0").years(seed, 1, 2), 30 + more);
+                edges.due("then the DAY", edges.one(99, 30, "0-(gone=" + (30 + more) + ")*9").years(seed, 1, 2), 30 + more - 9);
+            }
+        }
+        edges.due("60 at most", edges.one(99, 50, "0").years(seedOf(0, 20), 1, 2), 60);
+        edges.due("60 at most", edges.one(99, 50, "0").years(seedOf(1, 20), 1, 2), 60);
+        edges.due("0 at least", edges.one(99, 10, "0").years(seedOf(2, 20), 1, 2), 0);
+        for (int lacks : new int[] {0, 1, 60}) {
+            edges.due("SPARED", edges.one(99, lacks, "0").years(seedOf(3, 0), 1, 2), 0);
+            edges.due("SPARED, then the DAY", edges.one(99, lacks, "4").years(seedOf(3, 0), 1, 2), 4);
+        }
+        // Who is spared has no DRAW below 20: the next one is the next DAY's.
+        int seed = seedOf(3, 0);
+        Draws draws = new Draws(seed);
+        draws.below(1);
+        draws.below(4);
+        draws.below(1);
+        int deed = draws.below(4);
+        int much = deed == 3 ? 60 : draws.below(20) + 1;
+        edges.due("the next DAY", edges.one(99, 60, "9").years(seed, 2, 2), Math.max(0, deed >= 2 ? 9 - much : 9 + much) + 9);
+    }
+
+    private void whatYearsTell() {
+        int lost = seedOf(0, 5);
+        edges.due("by the deed and by the DAY", edges.one(99, 30, "1").years(lost, 1, 0), 2);
+        edges.due("by the deed alone", edges.one(99, 30, "0").years(lost, 1, 0), 1);
+        edges.due("there and back is twice", edges.one(99, 30, "0-5").years(lost, 1, 0), 2);
+        edges.due("as high as at first", edges.one(99, 30, "0-5").years(lost, 1, 1), 69);
+        edges.due("at 60 by neither", edges.one(99, 60, "9").years(lost, 1, 0), 0);
+        edges.due("at 60 by the DAY alone", edges.one(99, 60, "0-9").years(lost, 1, 0), 1);
+        edges.due("less than an inch", edges.town("person a plain lacks 0;weighs 20;fares 1;").years(lost, 1, 0), 0);
+        edges.due("at the ground", edges.one(5, 0, "9").years(lost, 1, 1), 0);
+        edges.due("at the ground once", edges.one(5, 0, "9").years(lost, 1, 0), 1);
+        edges.due("what all lack", edges.one(5, 0, "9").years(lost, 1, 2), 14);
     }
 
     private void yearsFromNow() {

@@ -15,6 +15,7 @@ final class EdgesOfTape {
         edges.of(1, "An object is used for at most 512 calls after it has been made", this::upToThe512thCall);
         edges.of(1, "`HalfMast()`: Nothing.", this::nothingIsThere);
         edges.of(1, "At first: nothing.", this::nothingOfAnotherObject);
+        edges.of(1, "The constants: `NONE = -1`: None.", () -> edges.due("NONE", HalfMast.NONE, -1));
         edges.of(2, "Up to 24 signs come behind the TAPE", this::upTo24Signs);
         edges.of(2, "the bytes of a, b, c, of each the highest first", this::theHighestFirst);
         edges.of(2, "others than 10 and 32 .. 126, and what is beyond 1,000, are left out", this::everyByte);

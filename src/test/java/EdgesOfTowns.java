@@ -23,6 +23,7 @@ final class EdgesOfTowns {
         edges.of(3, "A NAME is another WORD than person, lacks, feels, mast, weighs, rounds, fares, cut, up, near, lose, get, "
                 + "spare, feel, day, the KINDS, not, and, or", this::names);
         edges.of(3, "no two are alike.", this::noTwoAreAlike);
+        edges.of(3, "FAULTS, kind + 16 * the place (from 0) of a token", this::kindsAndPlaces);
         edges.of(3, "the end being one at the text's length", this::theEnd);
         edges.of(3, "of the first token from the left that is wrong the least", this::theFirstTheLeast);
         edges.of(3, "1 it is none, or can't stand there", this::cannotStandThere);
@@ -180,6 +181,15 @@ final class EdgesOfTowns {
         edges.due("in another TOWN", Check.town(x, AB), 0);
     }
 
+    private void kindsAndPlaces() {
+        String[][] faults = {{"?", "1"}, {" ?", "17"}, {"feels a", "98"}, {"mast 1;mast", "115"}, {"mast 0", "84"},
+            {"fares (((((1", "181"}, {" ".repeat(999) + "?", "15985"}, {" ".repeat(995) + "mast ", "16001"},
+            {" ".repeat(994) + "mast 0", "15988"}};
+        for (String[] c : faults) {
+            edges.due("a FAULT in " + c[0].trim(), Check.town(new HalfMast(), c[0]), Integer.parseInt(c[1]));
+        }
+    }
+
     private void theEnd() {
         edges.townFault(1, "mast|");
         edges.townFault(1, "mast |");
@@ -294,6 +304,17 @@ final class EdgesOfTowns {
             edges.due("old names are none", Check.year(x, "spare bob;"), Check.fault(2, 6));
             edges.due("an empty one", x.town(), 0);
             edges.dueCounts("nobody", x, 0, 40, 6, 0, 0, 0, 0, 0, 0, 0, 0, 0, 0);
+        }
+        // However many were told ahead of it, and with a FAULT or without.
+        HalfMast x = edges.town(AB + "feels a b;feels b a;fares 9;mast 9;weighs 1;rounds up;");
+        for (int i = 0; i < 3; i++) {
+            edges.due("as told", Check.town(x, AB), 0);
+            edges.dueCounts("as told", x, 2, 40, 6, 0, 0, 3, 3, 3, 0, 0, 0, 0, 0);
+            edges.due("a feels nobody", x.person(0, 3), 0);
+            edges.due("b feels nobody", x.person(1, 3), 0);
+            x.day();
+            edges.due("felt - 1", x.count(5), 1);
+            Check.town(x, AB + "feels a b;feels b a;fares 9;mast 9;weighs 1;rounds up;" + (i == 1 ? ";" : ""));
         }
     }
 
