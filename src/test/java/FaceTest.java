@@ -29,6 +29,7 @@ public final class FaceTest {
         publicMembers();
         innerClasses();
         source();
+        documentsFace();
         CHECK.finish();
     }
 
@@ -101,5 +102,25 @@ public final class FaceTest {
             CHECK.due("import " + imports.group(1),
                     Set.of("java.util.Arrays", "java.util.NoSuchElementException").contains(imports.group(1)), true);
         }
+    }
+
+    /** Every line of the document's own class, as it stands there, is a line of the source but for its end. */
+    private static void documentsFace() throws IOException {
+        Path place = Path.of("../shared/DOC.md");
+        if (!Files.exists(place)) {
+            System.out.println("FaceTest: the face is not looked up: no DOC.md");
+            return;
+        }
+        String source = Files.readString(Path.of("src/main/java/HalfMast.java"), StandardCharsets.US_ASCII);
+        int members = 0;
+        for (String line : Files.readString(place, StandardCharsets.UTF_8).split("\n")) {
+            if (line.startsWith("    public ") && line.endsWith(";")) {
+                members++;
+                boolean constant = line.contains("=");
+                String due = constant ? line : line.substring(0, line.length() - 1) + " {";
+                CHECK.due("the source has: " + due, source.contains("\n" + due + "\n"), true);
+            }
+        }
+        CHECK.due("all members of the document's face were looked up", members, FACE.length + 2);
     }
 }
